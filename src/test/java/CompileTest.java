@@ -189,10 +189,11 @@ public final class CompileTest {
         answers.due("the last argument count", Drafts.compile(x, 2, 2, "1: NUM.1", "1: NUM.1", "0: NUM.3"), 9);
         answers.due("the last argument count", Drafts.compile(x, 2, 2, "1: NUM.1", "1: NUM.1", "2: NUM.3"), 10);
         answers.due("the same", x.compile(2), 10);
-        answers.due("nothing left of it", Drafts.compile(x, 2, 0), 11);
-        answers.due("nothing again", Drafts.compile(x, 2, 0), 11);
-        answers.due("keys given", x.count(5), 11);
-        answers.due("key 2", x.key(2), 11);
+        answers.due("the first argument count", Drafts.compile(x, 2, 2, "0: NUM.1", "1: NUM.1", "2: NUM.3"), 11);
+        answers.due("nothing left of it", Drafts.compile(x, 2, 0), 12);
+        answers.due("nothing again", Drafts.compile(x, 2, 0), 12);
+        answers.due("keys given", x.count(5), 12);
+        answers.due("key 2", x.key(2), 12);
         answers.due("key 3", x.key(3), 2);
         answers.due("objects", x.count(2), 2);
     }

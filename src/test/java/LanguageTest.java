@@ -23,7 +23,7 @@ public final class LanguageTest {
         answers.due("classes inside are static", found(code, "(?<!static )(?<!static final )(?<!public final )\\bclass\\b"), 0);
         answers.due("static fields are final", found(code, "\\bstatic (?!final )\\w+(\\[\\])? \\w+( =|;)"), 0);
         answers.due("at most twelve classes", found(code, "\\bclass\\b") <= 12 ? 1 : 0, 1);
-        namesOfThe(code);
+        namesOfTheFace(code);
         lengths(code);
         answers.end();
     }
@@ -42,7 +42,7 @@ public final class LanguageTest {
     }
 
     /** A name of the face is declared once, as a public method. */
-    private static void namesOfThe(String code) {
+    private static void namesOfTheFace(String code) {
         String[] face = {
             "begin", "procedure", "token", "compile", "place", "remove", "load", "unload", "run", "value", "steps",
             "variable", "key", "loaded", "imported", "count"};

@@ -12,6 +12,7 @@ public final class LoadTest {
         full();
         undone();
         unload();
+        usedByEach();
         counts();
         answers.end();
     }
@@ -150,7 +151,7 @@ public final class LoadTest {
 
     private static final String SEVEN = "0: ADD ADD NUM.1 NUM.1 ADD NUM.1 NUM.1";
     private static final String THIRTEEN =
-        "0: ADD ADD ADD NUM.1 NUM.1 ADD NUM.1 NUM.1 ADD ADD NUM.1 NUM.1 ADD NUM.1 NUM.1".replaceFirst("ADD NUM.1 NUM.1$", "NUM.1");
+        "0: ADD ADD ADD NUM.1 NUM.1 ADD NUM.1 NUM.1 ADD ADD NUM.1 NUM.1 NUM.1";
 
     private static void full() {
         answers.scene("full");
@@ -227,6 +228,29 @@ public final class LoadTest {
         answers.due("variables are 0", x.variable(0, 0), 0);
         Drafts.compile(x, 3, 1, "0: CALL.0.0");
         answers.due("an object that imports it is no use", x.unload(0), 0);
+    }
+
+    /** Every module as the one that imports and as the one that is imported. */
+    private static void usedByEach() {
+        answers.scene("used by each");
+        for (int m = 0; m < 6; m++) {
+            ModuleShelf x = new ModuleShelf();
+            int first = (m + 1) % 6;
+            int second = (m + 2) % 6;
+            int beside = (m + 3) % 6;
+            Drafts.compile(x, first, 1);
+            Drafts.compile(x, second, 1);
+            Drafts.compile(x, beside, 1);
+            Drafts.compile(x, m, 1, "0: ADD VAR." + first + ".0 VAR." + second + ".0");
+            answers.due("load " + m, x.load(m), 3);
+            answers.due("load " + beside, x.load(beside), 1);
+            answers.due("unload " + first, x.unload(first), -7);
+            answers.due("unload " + second, x.unload(second), -7);
+            answers.due("unload " + beside, x.unload(beside), 0);
+            answers.due("unload " + m, x.unload(m), 0);
+            answers.due("unload " + second, x.unload(second), 0);
+            answers.due("unload " + first, x.unload(first), 0);
+        }
     }
 
     private static void counts() {

@@ -84,6 +84,9 @@ public final class RunTest {
         String behind = "ADD IF ARG.0 ADD NUM.1 NUM.2 MUL NUM.3 NUM.4 ARG.1";
         answers.due("behind the first", worth(behind, 1, 100), 103);
         answers.due("behind the second", worth(behind, 0, 100), 112);
+        String inside = "THEN NUM.1 THEN NUM.1 THEN NUM.1 IF ARG.0 NUM.5 NUM.6";
+        answers.due("inside of three others", worth(inside, 3, 0), 5);
+        answers.due("inside of three others", worth(inside, 0, 3), 6);
         ModuleShelf x = loadedShelf(2, "1: ADD IF ARG.0 SET.0 NUM.5 CALL.0.1 NUM.1 SET.1 NUM.6 NUM.7",
             "2: DIV NUM.1 NUM.0");
         answers.due("compile told parts of a CALL", x.run(0, 0, 1, 0), 0);
