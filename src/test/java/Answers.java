@@ -9,19 +9,23 @@ final class Answers {
     }
 
     void due(String call, long got, long want) {
+        hold(got == want, call, got, want);
+    }
+
+    void due(String call, String got, String want) {
+        hold(got.equals(want), call, got, want);
+    }
+
+    private void hold(boolean right, String call, Object got, Object want) {
         asked++;
-        if (got != want) {
+        if (!right) {
             wrong++;
             System.out.println(scene + ": " + call + " answered " + got + ", due is " + want);
         }
     }
 
-    void due(String call, String got, String want) {
-        asked++;
-        if (!got.equals(want)) {
-            wrong++;
-            System.out.println(scene + ": " + call + " answered " + got + ", due is " + want);
-        }
+    int asked() {
+        return asked;
     }
 
     boolean allRight() {

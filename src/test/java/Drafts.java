@@ -13,7 +13,7 @@ final class Drafts {
     }
 
     static void write(ModuleShelf shelf, int variables, String... procedures) {
-        shelf.begin(variables);
+        taken("begin " + variables, shelf.begin(variables));
         for (String procedure : procedures) {
             add(shelf, procedure);
         }
@@ -21,15 +21,16 @@ final class Drafts {
 
     static void add(ModuleShelf shelf, String procedure) {
         int colon = procedure.indexOf(':');
-        shelf.procedure(Integer.parseInt(procedure.substring(0, colon)));
+        taken(procedure, shelf.procedure(Integer.parseInt(procedure.substring(0, colon))));
         tokens(shelf, procedure.substring(colon + 1));
     }
 
+    /** How many tokens the last procedure has then. */
     static int tokens(ModuleShelf shelf, String tokens) {
         int answer = 0;
         for (String token : tokens.trim().split(" +")) {
             if (!token.isEmpty()) {
-                answer = token(shelf, token);
+                answer = taken(token, token(shelf, token));
             }
         }
         return answer;
@@ -46,5 +47,13 @@ final class Drafts {
         int first = words.length > 1 ? Integer.parseInt(words[1]) : 0;
         int second = words.length > 2 ? Integer.parseInt(words[2]) : 0;
         return op == 3 ? shelf.token(op, second, first) : shelf.token(op, first, second);
+    }
+
+    /** A test that writes more than a draft takes would test something else than it says. */
+    private static int taken(String text, int answer) {
+        if (answer < 0) {
+            throw new IllegalStateException(text + " was not taken: " + answer);
+        }
+        return answer;
     }
 }

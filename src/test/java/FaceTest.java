@@ -6,14 +6,13 @@ import java.lang.reflect.Modifier;
 import java.util.Arrays;
 import java.util.TreeSet;
 
-/** The public face, and promise 1: a new object. */
+/** The public face: what is there, and that nothing else is. */
 public final class FaceTest {
     private static final Answers answers = new Answers();
 
     public static void main(String[] args) {
         constants();
         members();
-        newObject();
         answers.end();
     }
 
@@ -56,35 +55,5 @@ public final class FaceTest {
             names.add(name);
             answers.due(name + " is public", Modifier.isPublic(member.getModifiers()) ? 1 : 0, 1);
         }
-    }
-
-    private static void newObject() {
-        answers.scene("new object");
-        ModuleShelf x = new ModuleShelf();
-        answers.due("place", x.place(), -1);
-        answers.due("value", x.value(), 0);
-        answers.due("steps", x.steps(), 0);
-        for (int what = 0; what < 6; what++) {
-            answers.due("count " + what, x.count(what), 0);
-        }
-        for (int m = -1; m < 7; m++) {
-            answers.due("key " + m, x.key(m), -1);
-            answers.due("loaded " + m, x.loaded(m), -1);
-            answers.due("imported " + m, x.imported(m, 0), -1);
-            answers.due("variable " + m, x.variable(m, 0), 0);
-            answers.due("remove " + m, x.remove(m), -1);
-            answers.due("unload " + m, x.unload(m), -1);
-            answers.due("run " + m, x.run(m, 0, 0, 0), -1);
-            answers.due("load " + m, x.load(m), m < 0 || m > 5 ? -1 : -4);
-        }
-        answers.due("token", x.token(0, 0, 0), -1);
-        answers.due("the first draft has no variables: SET", Drafts.tokens(withProcedure(x), "SET.0 NUM.1"), 2);
-        answers.due("compile", x.compile(0), -3);
-        answers.due("a new object's draft is right", new ModuleShelf().compile(0), 1);
-    }
-
-    private static ModuleShelf withProcedure(ModuleShelf shelf) {
-        answers.due("procedure", shelf.procedure(0), 0);
-        return shelf;
     }
 }
