@@ -7,7 +7,7 @@ public final class Promise10FaultTest extends Promise {
         test("promise 10: the 120th STEP begins, the 121st does not: LATE", Promise10FaultTest::steps);
         test("promise 10: LATE for any token that is the 121st STEP", Promise10FaultTest::anyToken);
         test("promise 10: LATE: what was SET stays", Promise10FaultTest::lateSet);
-        test("promise 10: LATE without end is LATE", Promise10FaultTest::lateInCalls);
+        test("promise 10: LATE in CALLs of CALLs", Promise10FaultTest::lateInCalls);
         test("promise 10: a CALL while 4 others run, and while 5: DEEP", Promise10FaultTest::depth);
         test("promise 10: DEEP: the CALL's parts are worked out before", Promise10FaultTest::deepParts);
         test("promise 10: DEEP: what was SET stays", Promise10FaultTest::deepSet);
@@ -81,7 +81,7 @@ public final class Promise10FaultTest extends Promise {
         due("once more", x.variable(0, 0), 2);
     }
 
-    /** Two CALLs of itself in each: many STEPS before it could be DEEP. */
+    /** Two CALLs of itself at each level: many STEPS before it could be DEEP. */
     private static void lateInCalls() {
         ModuleShelf x = loadedWith(1, "1: IF ARG.0 ADD CALL.0.0 SUB ARG.0 NUM.1 CALL.0.0 SUB ARG.0 NUM.1 SET.0 NUM.1");
         due("three levels", x.run(0, 0, 3, 0), 0);
@@ -241,7 +241,7 @@ public final class Promise10FaultTest extends Promise {
         due("steps", x.steps(), 5 * 6 + 6);
     }
 
-    private static ModuleShelf faulty() {
+    private static ModuleShelf settingNothing() {
         ModuleShelf x = new ModuleShelf();
         Drafts.compile(x, 0, 1, "2: DIV ARG.0 ARG.1", "1: IF ARG.0 ADD CALL.0.1 ARG.0 CALL.0.1 ARG.0 NUM.1");
         Drafts.compile(x, 1, 1, "1: IF ARG.0 ADD CALL.1.0 SUB ARG.0 NUM.1 CALL.1.0 SUB ARG.0 NUM.1 SET.0 VAR.1.0");
@@ -253,8 +253,8 @@ public final class Promise10FaultTest extends Promise {
     }
 
     private static void onlySteps() {
-        changesNothing("ZERO", Promise10FaultTest::faulty, x -> x.run(0, 0, 5, 0), ZERO, "steps()");
-        changesNothing("DEEP", Promise10FaultTest::faulty, x -> x.run(0, 1, 5, 0), DEEP, "steps()");
-        changesNothing("LATE", Promise10FaultTest::faulty, x -> x.run(1, 0, 5, 0), LATE, "steps()");
+        changesNothing("ZERO", Promise10FaultTest::settingNothing, x -> x.run(0, 0, 5, 0), ZERO, "steps()");
+        changesNothing("DEEP", Promise10FaultTest::settingNothing, x -> x.run(0, 1, 5, 0), DEEP, "steps()");
+        changesNothing("LATE", Promise10FaultTest::settingNothing, x -> x.run(1, 0, 5, 0), LATE, "steps()");
     }
 }

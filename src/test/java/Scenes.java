@@ -45,9 +45,9 @@ final class Scenes {
     }
 
     /**
-     * Module 0 is loaded and has not run: its procedure 0 divides x by y,
-     * 1 CALLs itself x times and sets variable 0, 2 is LATE for x above 3
-     * and answers 8 for 3.
+     * Module 0 is loaded and has not run: its procedure 0 divides x by y, 1
+     * CALLs itself x times and sets variable 0, 2 CALLs itself twice at each
+     * of x levels, which is LATE for 4 and 5.
      */
     static ModuleShelf faulty() {
         ModuleShelf x = new ModuleShelf();
