@@ -156,7 +156,8 @@ public final class Promise10FaultTest extends Promise {
         due("value", x.value(), 27);
         due("6 CALLs", x.run(0, 0, 5, 0), DEEP);
         due("and again 5", x.run(0, 0, 4, 0), 0);
-        x = loadedWith(0, "1: CALL.0.1 CALL.0.1 CALL.0.1 CALL.0.1 ARG.0", "1: IF LESS NUM.0 ARG.0 CALL.0.1 SUB ARG.0 NUM.4 ARG.0");
+        x = loadedWith(0, "1: CALL.0.1 CALL.0.1 CALL.0.1 CALL.0.1 ARG.0",
+            "1: IF LESS NUM.0 ARG.0 CALL.0.1 SUB ARG.0 NUM.4 ARG.0");
         due("parts do not run inside of their CALL", x.run(0, 0, 16, 0), 0);
         due("value", x.value(), 0);
         due("6 CALLs", x.run(0, 0, 20, 0), DEEP);

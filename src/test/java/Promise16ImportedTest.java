@@ -65,14 +65,17 @@ public final class Promise16ImportedTest extends Promise {
         imports("0: ADD VAR.4.0 ADD CALL.3.0 ADD VAR.2.0 ADD CALL.1.0 VAR.0.0", 4, 3, 2, 1, 0);
         imports("0: IF NUM.0 VAR.2.0 CALL.1.0", 2, 1);
         imports(new String[] {"0: NUM.1", "0: VAR.2.0", "0: VAR.1.0"}, 2, 1);
-        imports(new String[] {"0: ADD VAR.3.0 VAR.1.0", "0: ADD CALL.4.0 CALL.1.0", "0: ADD VAR.0.0 ADD VAR.4.0 VAR.2.0"}, 3, 1, 4, 0, 2);
+        String[] three = {"0: ADD VAR.3.0 VAR.1.0", "0: ADD CALL.4.0 CALL.1.0", "0: ADD VAR.0.0 ADD VAR.4.0 VAR.2.0"};
+        imports(three, 3, 1, 4, 0, 2);
     }
 
     private static void otherTokens() {
         ModuleShelf x = allBut(5);
         x.begin(1);
         x.procedure(2);
-        int[][] tokens = {{10, 1, 1}, {3, 2, 0}, {0, 3, 3}, {9, 4, 4}, {1, 1, 0}, {4, 1, 1}, {0, 0, 0}, {1, 0, 3}, {8, 2, 0}, {0, 4, 0}, {0, 2, 2}};
+        int[][] tokens = {
+            {10, 1, 1}, {3, 2, 0}, {0, 3, 3}, {9, 4, 4}, {1, 1, 0}, {4, 1, 1}, {0, 0, 0}, {1, 0, 3}, {8, 2, 0}, {0, 4, 0},
+            {0, 2, 2}};
         for (int[] token : tokens) {
             x.token(token[0], token[1], token[2]);
         }
