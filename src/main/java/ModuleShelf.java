@@ -691,17 +691,12 @@ public final class ModuleShelf {
             int length = code.lengthOf(frame.procedure);
             int due = 1;
             while (due > 0 && frame.at < length) {
-                due += partsOf(memory, code, code.cellOf(frame.procedure, frame.at)) - 1;
+                int cell = code.cellOf(frame.procedure, frame.at);
+                int op = code.ops[cell];
+                int parts = op == CALL ? memory.argumentsOf(code.as[cell], code.bs[cell]) : PARTS[op];
+                due += Math.max(0, parts) - 1;
                 frame.at++;
             }
-        }
-
-        private int partsOf(Memory memory, Code code, int cell) {
-            int op = code.ops[cell];
-            if (op != CALL) {
-                return PARTS[op];
-            }
-            return Math.max(0, memory.argumentsOf(code.as[cell], code.bs[cell]));
         }
 
         private int fail(int why) {

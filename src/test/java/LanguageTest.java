@@ -23,6 +23,7 @@ public final class LanguageTest {
         answers.due("classes inside are static", found(code, "(?<!static )(?<!static final )(?<!public final )\\bclass\\b"), 0);
         answers.due("static fields are final", found(code, "\\bstatic (?!final )\\w+(\\[\\])? \\w+( =|;)"), 0);
         answers.due("at most twelve classes", found(code, "\\bclass\\b") <= 12 ? 1 : 0, 1);
+        answers.due("objects are made with the shelf alone", found(withoutMakers(code), "\\bnew\\b"), 0);
         namesOfTheFace(code);
         lengths(code);
         answers.end();
@@ -30,6 +31,12 @@ public final class LanguageTest {
 
     private static String withoutComments(String text) {
         return text.replaceAll("(?s)/\\*.*?\\*/", "").replaceAll("//[^\n]*", "");
+    }
+
+    /** Without the constructors, and the fields that are filled as they are declared. */
+    private static String withoutMakers(String code) {
+        return code.replaceAll("(?s)\n( +)(public )?[A-Z]\\w+\\(\\) \\{.*?\n\\1\\}", "")
+            .replaceAll("final [\\w\\[\\]]+ \\w+ = new [^;]+;", "");
     }
 
     private static int found(String code, String pattern) {

@@ -1,13 +1,15 @@
 import java.util.ArrayList;
 import java.util.List;
 import java.util.TreeMap;
+import java.util.function.IntUnaryOperator;
 
-/** Long runs of calls on new objects, every answer beside the plain model's; none has more than 512. */
+/** Runs of 512 calls on new objects, every answer beside the plain model's. */
 public final class ModelTest {
     private static final int RUNS = 8000;
     private static final int CALLS = 512;
     private static final int CALLS_OF_LOOK = 3 + 8 * (3 + 2 * 7);
     private static final int CALLS_OF_DRAFT = 60;
+    private static final int MOST_OF_ANY_CALL = 4;
     private static final int[] ODD = {-1, 3, 6, 7, 12, 14, Integer.MIN_VALUE, Integer.MAX_VALUE, -2, 100};
 
     private static final Answers answers = new Answers();
@@ -71,7 +73,13 @@ public final class ModelTest {
             }
         }
         lookAtAll();
-        answers.due("calls are at most 512", calls <= CALLS ? 1 : 0, 1);
+        while (calls <= CALLS - MOST_OF_ANY_CALL && answers.allRight()) {
+            anyCall();
+        }
+        while (calls < CALLS && answers.allRight()) {
+            load(odd(6));
+        }
+        answers.due("calls", answers.allRight() ? calls : CALLS, CALLS);
     }
 
     private void hold(String name, String arguments, int got, int want) {
@@ -86,18 +94,27 @@ public final class ModelTest {
         return numbers.oneOf(40) ? ODD[numbers.below(ODD.length)] : numbers.below(bound);
     }
 
+    /** Most often a module that has such a key. */
+    private int likely(IntUnaryOperator key) {
+        int module = odd(6);
+        for (int i = 0; i < 5 && key.applyAsInt(module) < 0; i++) {
+            module = odd(6);
+        }
+        return module;
+    }
+
     private void sensibleCalls() {
         int kind = numbers.below(20);
         if (kind < 5) {
             writeDraft();
         } else if (kind < 8) {
-            load(odd(6));
+            load(likely(model::key));
         } else if (kind < 10) {
-            unload(odd(6));
+            unload(likely(model::loaded));
         } else if (kind < 11) {
             remove(odd(6));
         } else if (kind < 17) {
-            run(odd(6), odd(3), argument(), argument());
+            run(likely(model::loaded), odd(numbers.oneOf(2) ? 1 : 3), argument(), argument());
         } else {
             look();
         }

@@ -5,6 +5,15 @@ final class Scenes {
     static final String THIRTEEN = "ADD ADD ADD NUM.1 NUM.1 ADD NUM.1 NUM.1 ADD ADD NUM.1 NUM.1 NUM.1";
     static final String FOURTEEN = "IF NUM.0 NUM.1 ADD ADD ADD NUM.1 NUM.1 ADD NUM.1 NUM.1 ADD NUM.1 NUM.5";
 
+    /**
+     * Procedures of module 0: 0 divides x by y, 1 CALLs itself x times and
+     * sets variable 0, 2 CALLs itself twice at each of x levels, which is LATE
+     * for 4 and 5.
+     */
+    static final String[] FAULTY = {
+        "2: DIV ARG.0 ARG.1", "1: IF SET.0 ARG.0 CALL.0.1 SUB ARG.0 NUM.1 NUM.9",
+        "1: IF ARG.0 ADD CALL.0.2 SUB ARG.0 NUM.1 CALL.0.2 SUB ARG.0 NUM.1 NUM.1"};
+
     private Scenes() {
     }
 
@@ -44,15 +53,10 @@ final class Scenes {
         return x;
     }
 
-    /**
-     * Module 0 is loaded and has not run: its procedure 0 divides x by y, 1
-     * CALLs itself x times and sets variable 0, 2 CALLs itself twice at each
-     * of x levels, which is LATE for 4 and 5.
-     */
+    /** Module 0 is loaded with FAULTY and one variable, and has not run. */
     static ModuleShelf faulty() {
         ModuleShelf x = new ModuleShelf();
-        Drafts.compile(x, 0, 1, "2: DIV ARG.0 ARG.1", "1: IF SET.0 ARG.0 CALL.0.1 SUB ARG.0 NUM.1 NUM.9",
-            "1: IF ARG.0 ADD CALL.0.2 SUB ARG.0 NUM.1 CALL.0.2 SUB ARG.0 NUM.1 NUM.1");
+        Drafts.compile(x, 0, 1, FAULTY);
         x.load(0);
         return x;
     }
